@@ -1103,8 +1103,10 @@ public final class LoafStreet {
             for (int i = 0; i < street.bakers; i++) {
                 for (int set = 1 << i; set < 2 << i; set++) {
                     int others = set - (1 << i);
+                    int itself = row[i] <= least[others] ? 1 << i : 0;
+                    int alike = row[i] >= least[others] ? cheapest[others] : 0;
                     least[set] = Math.min(row[i], least[others]);
-                    cheapest[set] = (row[i] > least[others] ? 0 : 1 << i) | (row[i] < least[others] ? 0 : cheapest[others]);
+                    cheapest[set] = itself | alike;
                 }
             }
         }
