@@ -753,6 +753,15 @@ public final class PromisesTest {
         x.sure(0, 0);
         x.sure(1, 0);
         Due.is("high low and low high", x.lots(0, 1, 0, 1, 1), -1);
+        // b matches: against its 6, a at 4 sells to one and half of four (12 parts times 12), at 6 to half of four (the same)
+        x = Due.told("baker a cost 0;baker b cost 0;steps 2 from 4 by 2;women 1 ask a worth 5;women 1 ask b;"
+            + "women 4 ask a and b;");
+        x.promise(1, true);
+        x.sure(0, 0);
+        x.sure(1, 1);
+        Due.is("both are alike to a", x.at(0, 0) == x.at(0, 1), true);
+        Due.is("so low high is a rest", x.lots(0, 1, 0, 1, 1), -1);
+        Due.is("and high low the other way round", x.lots(1, 0, 0, 1, 1), -1);
     }
 
     private static void chase() {
@@ -931,6 +940,12 @@ public final class PromisesTest {
         Due.is("20 above", w.edge(0), 20);
         w = Due.told("baker a cost 0;steps 2 from 41 by 20;women 1 ask a worth 41;women 1 ask a;");
         Due.is("21 above", w.edge(0), -1);
+        w = Due.told("baker a cost 90;steps 3 from 99 by 20;women 1 ask a worth 119;women 1 ask a;");
+        // 2 (119 - c) against 139 - c: alike at c = 99
+        Due.is("99 is within reach", w.edge(0), 99);
+        w = Due.told("baker a cost 90;steps 3 from 99 by 20;women 20 ask a worth 119;women 19 ask a;");
+        // 39 (119 - c) against 19 (139 - c): alike at c = 100
+        Due.is("100 isn't", w.edge(0), -1);
         w.law(0, 0);
         w.force(0);
         w.cost(0, 1);
