@@ -184,7 +184,7 @@ public final class LoafStreet {
     }
 
     public boolean lot(int baker, int step, int parts) {
-        if (!street.hasBaker(baker) || step < 0 || step >= MOST_STEPS || parts < 0 || parts > ALL_PARTS) {
+        if (!street.hasBaker(baker) || !isAnyStep(step) || parts < 0 || parts > ALL_PARTS) {
             return false;
         }
         if (stand.kinds[baker] != LOTS) {
@@ -207,10 +207,15 @@ public final class LoafStreet {
     }
 
     public int part(int baker, int step) {
-        if (!street.hasBaker(baker) || !street.hasStep(step) || !trade.settle()) {
+        if (!street.hasBaker(baker) || !isAnyStep(step) || !trade.settle()) {
             return NONE;
         }
         return trade.parts[baker * MOST_STEPS + step];
+    }
+
+    /** LOTS and LAWS may name STEPS that a STREET hasn't told, so they don't ask the STREET. */
+    private static boolean isAnyStep(int step) {
+        return step >= 0 && step < MOST_STEPS;
     }
 
     // ---- what bakers sell and earn
@@ -353,7 +358,7 @@ public final class LoafStreet {
     // ---- laws
 
     public int law(int kind, int step) {
-        if (kind < BARS_ABOVE || kind > SHOUTS || step < 0 || step >= MOST_STEPS) {
+        if (kind < BARS_ABOVE || kind > SHOUTS || !isAnyStep(step)) {
             return NONE;
         }
         return laws.add(kind, step);

@@ -518,7 +518,7 @@ final class Model {
 
     int part(int b, int step) {
         int[][] p = whole();
-        return p == null || !isBaker(b) || !isStep(step) ? -1 : p[b][step];
+        return p == null || !isBaker(b) || step < 0 || step > 7 ? -1 : p[b][step];
     }
 
     long sold(int b) {

@@ -195,7 +195,7 @@ public final class ModelTest {
         int k = near(0, m.told.steps - 1);
         String args = "(" + b + ", " + s + ", " + k + ")";
         switch (lot.nextInt(20)) {
-            case 0: Due.is(run + "part" + args, x.part(b, k), m.part(b, k)); break;
+            case 0: int any = near(0, 7); Due.is(run + "part" + args + any, x.part(b, any), m.part(b, any)); break;
             case 1: Due.is(run + "sold" + args, x.sold(b), m.sold(b)); break;
             case 2: Due.is(run + "earns" + args, x.earns(b), m.earns(b)); break;
             case 3: Due.is(run + "at" + args, x.at(b, k), m.at(b, k)); break;

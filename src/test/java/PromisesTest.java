@@ -347,7 +347,9 @@ public final class PromisesTest {
         x.sure(1, 0);
         Due.is("part", x.part(0, 2), 100);
         Due.is("part of another step", x.part(0, 0), 0);
-        Due.is("part, no such step", x.part(0, 3), -1);
+        Due.is("part, a step that isn't told", x.part(0, 3), 0);
+        Due.is("part, step 7", x.part(0, 7), 0);
+        Due.is("part, step 8", x.part(0, 8), -1);
         Due.is("part, step -1", x.part(0, -1), -1);
         Due.is("part of 2", x.part(2, 0), -1);
         Due.is("part of -1", x.part(-1, 0), -1);
@@ -363,6 +365,9 @@ public final class PromisesTest {
         Due.is("lot of the rest", x.lot(0, 2, 40), true);
         Due.is("whole", x.count(6), 1);
         Due.is("part", x.part(0, 2), 40);
+        Due.is("part of lots, a step that isn't told", x.part(0, 3), 0);
+        Due.is("part of lots, step 7", x.part(0, 7), 0);
+        Due.is("part of lots, step 8", x.part(0, 8), -1);
         Due.is("rows", x.count(7), 2);
         Due.is("too many parts together", x.lot(0, 1, 1), true);
         Due.is("101 aren't whole", x.count(6), 0);
@@ -396,6 +401,9 @@ public final class PromisesTest {
         Due.is("answer", x.answer(0), true);
         Due.is("ask answer", x.ask(0), 3);
         Due.is("best against 7 is 10", x.part(0, 2), 100);
+        Due.is("part of an answer, a step that isn't told", x.part(0, 3), 0);
+        Due.is("part of an answer, step 7", x.part(0, 7), 0);
+        Due.is("part of an answer, step 8", x.part(0, 8), -1);
         Due.is("earns by it", x.earns(0), 960 * 10000);
         x.sure(1, 2);
         Due.is("against 10 still 10", x.part(0, 2), 100);
