@@ -31,6 +31,7 @@ public final class BoundsOfBuyersTest {
         lotsAndWhole();
         lotsWithoutRest();
         lotsWithRest();
+        lotsWithOneRest();
         lotsWithOthers();
         Due.end("BoundsOfBuyersTest");
     }
@@ -445,6 +446,47 @@ public final class BoundsOfBuyersTest {
         // rests of these four need not be rests of all
         x = allAt("baker a cost 0;baker b cost 0;women 1 ask a;women 1 ask b;", 0, 0);
         Due.is("a rest of the four lower ones", x.lots(0, 1, 0, 2, 1), -1);
+    }
+
+    /** Just one of the four couples is a rest, and one of the two is as well off by its other STEP. */
+    private static void lotsWithOneRest() {
+        oneRest(0, true, 1, "baker a cost 2;baker b cost 2;steps 2 from 13 by 8;women 15 ask a and b;");
+        oneRest(0, false, 2, "baker a cost 2;baker b cost 1;steps 2 from 18 by 1;women 1 ask a;women 5 ask a and b worth 36;");
+        oneRest(1, true, 2, "baker a cost 2;baker b cost 1;steps 2 from 4 by 2;women 3 ask a and b worth 5;"
+            + "women 3 ask a and b;women 2 ask b;");
+        oneRest(1, false, 1, "baker a cost 0;baker b cost 1;steps 2 from 15 by 7;women 6 ask b;women 3 ask a;"
+            + "women 6 ask a and b;women 1 ask b worth 12;");
+        oneRest(2, true, 2, "baker a cost 2;baker b cost 0;steps 2 from 10 by 2;women 2 ask a and b worth 12;"
+            + "women 4 ask a worth 17;women 1 ask b worth 28;");
+        oneRest(2, false, 1, "baker a cost 1;baker b cost 2;steps 2 from 14 by 8;women 2 ask a and b worth 18;women 2 ask a;"
+            + "women 3 ask a and b;");
+        oneRest(3, true, 1, "baker a cost 1;baker b cost 2;steps 2 from 4 by 2;women 12 ask a and b;women 3 ask a;");
+        oneRest(3, false, 2, "baker a cost 0;baker b cost 0;steps 2 from 9 by 5;women 3 ask a worth 25;"
+            + "women 2 ask a and b worth 10;women 6 ask a and b;women 6 ask b;");
+    }
+
+    /** A couple: 2 for a's high STEP, and 1 for b's. */
+    private static void oneRest(int couple, boolean alikeToA, int promises, String text) {
+        LoafStreet x = Due.told(text);
+        x.promise(0, (promises & 1) != 0);
+        x.promise(1, (promises & 2) != 0);
+        long[] a = new long[4];
+        long[] b = new long[4];
+        for (int i = 0; i < 4; i++) {
+            x.sure(0, i >> 1);
+            x.sure(1, i & 1);
+            a[i] = x.earns(0);
+            b[i] = x.earns(1);
+        }
+        for (int i = 0; i < 4; i++) {
+            Due.is(text + " rests at " + i, a[i] >= a[i ^ 2] && b[i] >= b[i ^ 1], i == couple);
+        }
+        Due.is(text + " a alike", a[couple] == a[couple ^ 2], alikeToA);
+        Due.is(text + " b alike", b[couple] == b[couple ^ 1], !alikeToA);
+        for (int what = 0; what < 4; what++) {
+            Due.is(text + " has a rest, what " + what, x.lots(0, 1, 0, 1, what), -1);
+            Due.is(text + " has a rest, turned, what " + what, x.lots(1, 0, 0, 1, what), -1);
+        }
     }
 
     private static void lotsWithOthers() {

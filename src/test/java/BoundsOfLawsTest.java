@@ -17,6 +17,7 @@ public final class BoundsOfLawsTest {
         chaseNobody();
         chaseRing();
         chaseRingAtTheBeginning();
+        chaseOfSixty();
         chaseOnlyForMore();
         chaseOfLots();
         chaseRefused();
@@ -123,6 +124,54 @@ public final class BoundsOfLawsTest {
         Due.is("the other half", x.chase(60, 0) * 100 + x.chase(60, 1) * 10 + x.chase(60, 2), 122);
         Due.is("a", x.chase(60, 10), 0);
         Due.is("b", x.chase(60, 11), 3);
+    }
+
+    /** A long way: with the sixtieth round, and no sooner, the ASKS are as behind an elder one. */
+    private static final String LONG = "baker a cost 6;baker b cost 0;baker c cost 3;baker d cost 18;steps 8 from 19 by 1;"
+        + "women 87 ask c and d;women 31 ask b and c;women 64 ask b;women 59 ask a and b;women 62 ask c;women 23 ask b and c;"
+        + "women 16 ask b;women 33 ask a;women 7 ask a and b and d worth 20;";
+
+    private static void chaseOfSixty() {
+        int[] steps = {1, 1, 0, 2};
+        int[] codes = new int[61];
+        for (int round = 0; round <= 60; round++) {
+            for (int b = 0; b < 4; b++) {
+                codes[round] += steps[b] << 3 * b;
+            }
+            if (round == 58 || round == 59 || round == 60) {
+                LoafStreet x = longWay(new int[] {1, 1, 0, 2});
+                Due.is("ends by " + round, x.chase(round, 0), round < 60 ? 2 : 1);
+                Due.is("gone by " + round, x.chase(round, 1), round);
+                Due.is("length by " + round, x.chase(round, 2), round < 60 ? 0 : 60 - elder(codes));
+                for (int b = 0; b < 4; b++) {
+                    Due.is("step of " + b + " by " + round, x.chase(round, 10 + b), steps[b]);
+                }
+            }
+            LoafStreet x = longWay(steps);
+            for (int b = 0; b < 4; b++) {
+                int best = x.best(b);
+                if (x.at(b, best) > x.earns(b)) {
+                    x.sure(b, best);
+                    steps[b] = best;
+                }
+            }
+        }
+        Due.is("an elder round is there", elder(codes) < 60, true);
+    }
+
+    private static LoafStreet longWay(int[] steps) {
+        LoafStreet x = allAt(LONG, steps);
+        x.promise(1, true);
+        x.promise(2, true);
+        return x;
+    }
+
+    private static int elder(int[] codes) {
+        int i = 0;
+        while (codes[i] != codes[60]) {
+            i++;
+        }
+        return i;
     }
 
     private static void chaseOnlyForMore() {

@@ -207,8 +207,10 @@ public final class BoundsOfTextTest {
 
     private static void takenAllIsGone() {
         LoafStreet x = rich();
+        Due.is("some rests", x.rests(-1) < 16, true);
         Due.is("taken", Due.tell(x, "baker a cost 7;baker b cost 8;"), 2);
         Due.is("two streets", x.count(0), 2);
+        Due.is("its own rests: all of nobody's", x.rests(-1), 16);
         Due.is("asks are gone", x.ask(0) * 10 + x.ask(1), 0);
         Due.is("not whole", x.count(6), 0);
         Due.is("promises are gone", x.count(5), 0);
@@ -366,7 +368,10 @@ public final class BoundsOfTextTest {
         fault("baker qrstuvwx cost 1;women 1 ask qrstuvwxq;", 34);
         fault("baker a cost 1;list qqqqqqqqqqqqqqqqqqqqqqqqqqqqqqqa;", 20);
         taken("baker aaaaaaaa cost 1;baker zzzzzzzz cost 1;baker aaaaaaaz cost 1;baker zaaaaaaa cost 1;", 4);
-        taken("baker a cost 1;baker aa cost 1;baker aaa cost 1;baker aaaa cost 1;", 4);
+        for (char c = 'a'; c <= 'z'; c++) {
+            String cc = "" + c + c;
+            taken("baker " + c + " cost 1;baker " + cc + " cost 1;baker " + cc + c + " cost 1;baker " + cc + cc + " cost 1;", 4);
+        }
     }
 
     private static void words() {
@@ -383,6 +388,22 @@ public final class BoundsOfTextTest {
             fault(word.substring(1) + " 1;", 0);
             fault(word + "s 1;", 0);
         }
+        for (String statement : new String[] {"baker b cost 1;", "steps 1 from 1 by 1;", "list a;", "door 1;",
+            "women 1 ask a worth 1;", "each 1 of 1;", "readers 1;"}) {
+            taken(ONE + statement, statement.startsWith("baker") ? 2 : 1);
+            for (String word : words) {
+                int place = statement.indexOf(word);
+                for (int i = 0; place >= 0 && i < word.length(); i++) {
+                    StringBuilder text = new StringBuilder(ONE + statement);
+                    text.setCharAt(ONE.length() + place + i, 'q');
+                    fault(text.toString(), ONE.length() + place);
+                }
+            }
+        }
+        LoafStreet x = Due.told(ONE + "baker b cost 1;women 1 ask a and b;");
+        Due.is("and", x.told(202), 3);
+        fault(ONE + "baker b cost 1;women 1 ask a qnd b;", 44);
+        fault(ONE + "baker b cost 1;women 1 ask a anq b;", 44);
     }
 
     private static void namesToldOrNot() {
