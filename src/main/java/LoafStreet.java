@@ -486,7 +486,6 @@ public final class LoafStreet {
             door = other.door;
             listed = other.listed;
             statements = other.statements;
-            System.arraycopy(other.names, 0, names, 0, MOST_BAKERS);
             System.arraycopy(other.costs, 0, costs, 0, MOST_BAKERS);
             System.arraycopy(other.kinds, 0, kinds, 0, MOST_SORTS);
             System.arraycopy(other.numbers, 0, numbers, 0, MOST_SORTS);

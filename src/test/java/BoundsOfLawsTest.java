@@ -124,6 +124,12 @@ public final class BoundsOfLawsTest {
         Due.is("the other half", x.chase(60, 0) * 100 + x.chase(60, 1) * 10 + x.chase(60, 2), 122);
         Due.is("a", x.chase(60, 10), 0);
         Due.is("b", x.chase(60, 11), 3);
+        x.law(0, 0);
+        x.force(0);
+        x.sure(0, 0);
+        x.sure(1, 0);
+        Due.is("nobody at once, behind a ring", x.chase(60, 0) * 10 + x.chase(60, 1), 1);
+        Due.is("no length any more", x.chase(60, 2), 0);
     }
 
     /** A long way: with the sixtieth round, and no sooner, the ASKS are as behind an elder one. */
@@ -195,6 +201,12 @@ public final class BoundsOfLawsTest {
         x.lot(0, 1, 1);
         Due.is("others don't", x.chase(60, 10), 0);
         Due.is("in two rounds", x.chase(60, 0) * 10 + x.chase(60, 1), 2);
+        // a goes from the second step to the first, b from lots to the last: no elder round was like that
+        LoafStreet y = allAt("baker a cost 0;baker b cost 0;steps 8 from 8 by 1;women 1 ask a worth 8;women 1 ask b;", 1);
+        y.lot(1, 0, 50);
+        y.lot(1, 1, 50);
+        Due.is("no ring", y.chase(60, 0) * 10 + y.chase(60, 1), 2);
+        Due.is("their steps", y.chase(60, 10) * 10 + y.chase(60, 11), 7);
     }
 
     private static void chaseRefused() {
@@ -344,6 +356,13 @@ public final class BoundsOfLawsTest {
         LoafStreet y = Due.told("baker a cost 0;women 1 ask a;");
         y.law(0, 0);
         Due.is("the only one, number 0", y.bestLaw(0, 0), 0);
+        LoafStreet z = Due.told(FOUR + "steps 8 from 1 by 1;women 1 ask a and b and c and d;women 1 ask d;");
+        // a, b, c undercut one another down to the least; d asks its own sort the most that isn't barred: 8, by law 4 only 6
+        for (int i = 0; i < 6; i++) {
+            z.law(i % 2, 7 - i / 2);
+        }
+        Due.is("of four bakers: for d's own", z.bestLaw(1, 0) * 10000 + z.bestLaw(1, 1), 46000);
+        Due.is("for those of all", z.bestLaw(0, 0) * 10000 + z.bestLaw(0, 1), 91000);
         y = Due.told("baker a cost 0;women 1 ask a;");
         y.law(1, 3);
         Due.is("one that doesn't help", y.bestLaw(0, 0), 9);
@@ -584,6 +603,10 @@ public final class BoundsOfLawsTest {
             Due.is("shouted to sort " + sort, x.run(1, 1, 30 + sort), shouted[sort]);
         }
         Due.is("home", allAt("baker a cost 0;women 1 ask a worth 4;", 0).run(1, 400, 30), 0);
+        LoafStreet y = allAt("baker a cost 0;readers 9;women 1 ask a;each 1 of 2;", 0);
+        Due.is("readers without any door pay nothing", y.run(1, 400, 30), 0);
+        Due.is("nor those without a set", y.run(1, 400, 32), 0);
+        Due.is("women do", y.run(1, 400, 31), 400 * 60);
     }
 
     // ---- promises 32 to 34

@@ -18,6 +18,7 @@ public final class BoundsOfTextTest {
         tapeIsEmptyThen();
         faultLeavesTheStreet();
         takenAllIsGone();
+        fewerStepsThen();
         latestFault();
         toldAtFirst();
         toldOfBakers();
@@ -221,6 +222,7 @@ public final class BoundsOfTextTest {
         Due.is("no image 0", x.back(0), false);
         Due.is("costs as told", x.told(100) * 10 + x.told(101), 78);
         Due.is("no sorts", x.told(1), 0);
+        Due.is("its own statements", x.told(7), 2);
         Due.is("the list is gone", x.told(6), 0);
         Due.is("the door is gone", x.told(5), 0);
         Due.is("4 from 5 by 5", x.told(2) * 100 + x.told(3) * 10 + x.told(4), 455);
@@ -229,6 +231,34 @@ public final class BoundsOfTextTest {
         x.lot(1, 2, 70);
         x.sure(0, 0);
         Due.is("elder lots are gone", x.count(6), 0);
+        for (int i = 0; i < 3; i++) {
+            Due.is("24 statements again and again", Due.tell(x, ONE + "door 1;".repeat(11) + "readers 1;".repeat(12)), 1);
+            Due.is("its 12 sorts", x.told(1), 12);
+            Due.is("its 24 statements", x.told(7), 24);
+        }
+    }
+
+    /** What the mornings of a longer row of STEPS leave behind is nothing to a STREET with a shorter one. */
+    private static void fewerStepsThen() {
+        LoafStreet x = new LoafStreet();
+        for (int i = 0; i < 2; i++) {
+            Due.tell(x, "baker a cost 0;baker b cost 0;steps 8 from 1 by 1;");
+            x.sure(0, 7);
+            x.sure(1, 7);
+            Due.is("price of 8", x.run(1, 1, 21), 8);
+            Due.tell(x, "baker a cost 0;baker b cost 0;steps 2 from 3 by 1;each 1 of 2;");
+            if (i == 0) {
+                for (int b = 0; b < 2; b++) {
+                    x.lot(b, 0, 50);
+                    x.lot(b, 1, 50);
+                }
+                Due.is("by lots each sells the half", x.sold(0) * 10 + x.sold(1), 6 * 11 * 10000);
+            } else {
+                // at 4 each has 6 for 4, and 12 for 3 if it undercuts the other
+                Due.is("one rest", x.rests(-1), 1);
+                Due.is("both at 3", x.rests(0), 0);
+            }
+        }
     }
 
     private static void latestFault() {
