@@ -562,7 +562,7 @@ public final class LoafStreet {
                 return 1;
             }
             int sets = 0;
-            for (int set = 0; set <= everyone(); set++) {
+            for (int set = 0; set < 1 << bakers; set++) {
                 if (Integer.bitCount(set) == named[sort]) {
                     sets++;
                 }

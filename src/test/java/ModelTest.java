@@ -7,27 +7,37 @@ public final class ModelTest {
     private final LoafStreet x = new LoafStreet();
     private final Model m = new Model();
     private final String run;
+    /** Numbers up to all that a text may tell; else small ones, by which more sales are shared. */
+    private final boolean wide;
 
-    private ModelTest(int seed) {
+    private ModelTest(int seed, boolean wide) {
         lot = new Random(seed);
         run = "run " + seed + ": ";
+        this.wide = wide;
     }
 
     public static void main(String[] args) {
         for (int seed = 0; seed < 700; seed++) {
-            new ModelTest(seed).calls(seed % 50 == 0 ? 4 : 3, seed % 50 == 0 ? 8 : 5);
+            new ModelTest(seed, false).calls(seed % 50 == 0 ? 4 : 3, seed % 50 == 0 ? 8 : 5);
+        }
+        for (int seed = 30000; seed < 30300; seed++) {
+            new ModelTest(seed, true).calls(seed % 50 == 0 ? 4 : 3, seed % 50 == 0 ? 8 : 5);
         }
         for (int seed = 10000; seed < 13000; seed++) {
-            new ModelTest(seed).texts();
+            new ModelTest(seed, seed % 2 == 0).texts();
         }
         for (int seed = 20000; seed < 20400; seed++) {
-            new ModelTest(seed).duel();
+            new ModelTest(seed, false).duel();
         }
         Due.end("ModelTest");
     }
 
     private int upTo(int most) {
         return lot.nextInt(most + 1);
+    }
+
+    private int upTo(int most, int mostOfAll) {
+        return upTo(wide ? mostOfAll : most);
     }
 
     private int near(int least, int most) {
@@ -89,13 +99,14 @@ public final class ModelTest {
     private String text(int bakers, int steps, int sorts) {
         StringBuilder b = new StringBuilder();
         for (int i = 0; i < bakers; i++) {
-            b.append("baker ").append(NAMES[i]).append(" cost ").append(upTo(12)).append(gap());
+            b.append("baker ").append(NAMES[i]).append(" cost ").append(upTo(12, 99)).append(gap());
         }
         if (lot.nextInt(8) > 0) {
-            b.append("steps ").append(steps).append(" from ").append(upTo(15)).append(" by ").append(1 + upTo(4)).append(gap());
+            b.append("steps ").append(steps).append(" from ").append(upTo(15, 99));
+            b.append(" by ").append(1 + upTo(4, 19)).append(gap());
         }
         if (lot.nextBoolean()) {
-            b.append("door ").append(upTo(3)).append(gap());
+            b.append("door ").append(upTo(3, 99)).append(gap());
         }
         for (int i = 0; i < bakers; i++) {
             if (lot.nextInt(3) == 0) {
@@ -109,7 +120,7 @@ public final class ModelTest {
     }
 
     private void sort(StringBuilder b, int bakers) {
-        int number = 1 + upTo(30);
+        int number = 1 + upTo(30, 98);
         int kind = lot.nextInt(5);
         if (kind < 3) {
             b.append("women ").append(number).append(" ask ");
@@ -124,7 +135,7 @@ public final class ModelTest {
             b.append("readers ").append(number);
         }
         if (lot.nextBoolean()) {
-            b.append(" worth ").append(upTo(30));
+            b.append(" worth ").append(upTo(30, lot.nextBoolean() ? 250 : 999));
         }
         b.append(gap());
     }
@@ -137,7 +148,7 @@ public final class ModelTest {
     // ---- calls
 
     private void calls(int bakers, int steps) {
-        tell(text(bakers == 4 ? 4 : 1 + upTo(bakers - 1), bakers == 4 ? 3 + upTo(steps - 3) : 1 + upTo(steps - 1), 2 + upTo(4)));
+        tell(text(bakers == 4 ? 4 : 1 + upTo(bakers - 1), bakers == 4 ? 3 + upTo(steps - 3) : 1 + upTo(steps - 1), 2 + upTo(4, 10)));
         askAll();
         for (int i = 0; i < (bakers == 4 ? 60 : 250); i++) {
             if (lot.nextInt(6) == 0) {
